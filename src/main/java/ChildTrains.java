@@ -843,7 +843,7 @@ public final class ChildTrains {
             int lodged = mostLodged();
             int pairs = countPairs();
             over = members - lodged;
-            parted = pairs == 0 ? 0 : pairs - mostTogether(lodged);
+            parted = pairs == 0 ? 0 : pairs - mostTogether(lodged, pairs);
         }
 
         private void noteChildren(Children children, Hall hall) {
@@ -901,7 +901,7 @@ public final class ChildTrains {
             return least;
         }
 
-        private int mostTogether(int lodged) {
+        private int mostTogether(int lodged, int pairs) {
             int sets = 1 << members;
             Arrays.fill(kept, 0, sets, NONE);
             kept[0] = 0;
@@ -918,6 +918,9 @@ public final class ChildTrains {
                     int many = Integer.bitCount(set);
                     if (many <= Math.min(bedsSoFar, lodged) && many + bedsToCome >= lodged) {
                         kept[set] = keptWith(this, set, set & takenBy[h], 0, 0, bedsOf[h]);
+                        if (many == lodged && kept[set] == pairs) {
+                            return pairs;
+                        }
                     }
                 }
             }
