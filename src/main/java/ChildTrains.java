@@ -903,7 +903,7 @@ public final class ChildTrains {
 
         private int mostTogether(int lodged, int pairs) {
             int sets = 1 << members;
-            Arrays.fill(kept, 0, sets, NONE);
+            Arrays.fill(kept, NONE);
             kept[0] = 0;
             int bedsSoFar = 0;
             int bedsToCome = 0;

@@ -341,6 +341,8 @@ public final class PromiseTest {
         due(24, x.count(1));
         due(4, x.free(1, 0));
         due(2, x.free(23, 0));
+        due(0, x.best(0, 0));
+        due(STATE, x.best(1, 0));
     }
 
     private static void pay() {
@@ -748,6 +750,8 @@ public final class PromiseTest {
         due(BAD, x.fetch(2, 100));
         due(80, x.count(3));
         due(1, x.where(0, 199));
+        due(93, x.paid(1, 27));
+        due(0, x.paid(0, 27));
     }
 
     private static void days() {
