@@ -20,8 +20,9 @@ public final class PromiseTest {
 
     /** Types a text of characters 0 to 255 into THE DRAFT. */
     private static void type(ChildTrains x, String text) {
-        for (int i = 0; i < text.length(); i++) {
-            x.type(text.charAt(i), 1);
+        for (int i = 0; i < text.length(); i += 8) {
+            String part = text.substring(i, Math.min(text.length(), i + 8));
+            x.type(bytes(part), part.length());
         }
     }
 
@@ -571,6 +572,10 @@ public final class PromiseTest {
             due(text.length(), x.count(4));
             due(1, x.count(2));
         }
+        manyOrders(new ChildTrains());
+    }
+
+    private static void manyOrders(ChildTrains x) {
         due(30, orders(x, "c0:+l;".repeat(30)));
         due(-10 - 180, orders(x, "c0:+l;".repeat(31)));
         due(-10 - 180, orders(x, "c0:+l;".repeat(30) + "c"));
