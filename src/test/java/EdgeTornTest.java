@@ -165,6 +165,14 @@ public final class EdgeTornTest {
             }
             due(2, torn(x, "?", 2));
         });
+        Edge.sentence("NEXT QUESTION of 48 whom no QUESTION tells apart: the first", () -> {
+            ChildTrains x = Edge.made(Edge.children(48, 1, 15, 20, 7));
+            for (int c = 0; c < 48; c++) {
+                Edge.name(x, c, "z");
+            }
+            due(48, torn(x, "?", 0));
+            due(0, torn(x, "?", 2));
+        });
     }
 
     /** Parties 0, 1 .. of so many children. */

@@ -566,6 +566,13 @@ public final class EdgeTrainsTest {
             Edge.dueRow(new long[] {NONE, NONE, 0, 23}, x.boarded(0, 1), x.boarded(23, 1), x.boarded(24, 1), x.boarded(47, 1));
             due(24, x.mixed(1));
         });
+        Edge.sentence("1: none of 48 who wait has the LABEL", () -> {
+            ChildTrains x = Edge.made(full().then(Edge.train(5, 0, 300, 48, 0)));
+            x.wayOf(1);
+            due(48, x.mixed(1));
+            x.wayOf(2);
+            due(43, x.mixed(1));
+        });
         Edge.sentence("2: as 1, but in the last 5 MINUTES that it stands as 0", () -> {
             int[][] rows = {{0, 300, 295}, {0, 10, 5}, {0, 6, 1}, {0, 5, 0}, {0, 4, 0}, {3, 5, 3}, {3, 8, 3}, {3, 9, 4}, {299, 300, 299}};
             for (int[] r : rows) {
