@@ -565,7 +565,7 @@ public final class ChildTrains {
 
         /** The byte at a place; NONE behind the last one. */
         int at(int place) {
-            return within(place, 0, length - 1) ? text[place] : NONE;
+            return place >= 0 && place < length ? text[place] : NONE;
         }
     }
 
@@ -954,7 +954,7 @@ public final class ChildTrains {
     /** THE ORDERS as they were read, and which of them rules. */
     private static final class OrderBook {
         private static final int LODGE = 0, MOVE = 1, FETCH = 2;
-        private static final int IS_SEX = 0, IS_BELOW = 1, IS_ABOVE = 2, HAS_KIN = 3, IS_KIND = 4, IS_VILLAGE = 5;
+        private static final int IS_SEX = 0, IS_BELOW = 1, HAS_KIN = 2, IS_KIND = 3, IS_VILLAGE = 4, IS_ABOVE = 5;
 
         private final int[] body = new int[MOST_ORDERS];
         private final int[] day = new int[MOST_ORDERS];
@@ -994,10 +994,10 @@ public final class ChildTrains {
             switch (condWhat[cond]) {
                 case IS_SEX: return children.sex[child] == value;
                 case IS_BELOW: return children.age[child] < value;
-                case IS_ABOVE: return children.age[child] > value;
                 case HAS_KIN: return children.hasKin(child);
                 case IS_KIND: return houses.kind[house] == value;
-                default: return houses.village[house] == value;
+                case IS_VILLAGE: return houses.village[house] == value;
+                default: return children.age[child] > value;
             }
         }
     }
@@ -1005,6 +1005,9 @@ public final class ChildTrains {
     /** Reads THE DRAFT as ORDERS; where it stops, there is the FAULT. */
     private static final class OrderReader {
         private static final String BODY_SIGNS = "mcp", VERDICT_SIGNS = "-=+", DEED_SIGNS = "lvf";
+        // In the order of OrderBook's numbers for what a COND asks; IS_ABOVE begins with IS_BELOW's sign.
+        private static final String COND_SIGNS = "sakhw";
+        private static final int[] MOST_VALUE = {1, 15, 0, NURSERY, VILLAGES - 1};
 
         private int at = 0;
 
@@ -1062,27 +1065,16 @@ public final class ChildTrains {
 
         private boolean readCond(Draft draft, OrderBook into, int cond) {
             into.condNot[cond] = readSign(draft, "!") >= 0;
-            switch (readSign(draft, "sakhw")) {
-                case 0: return readValue(draft, into, cond, OrderBook.IS_SEX, 1);
-                case 1: return readAge(draft, into, cond);
-                case 2:
-                    into.condWhat[cond] = OrderBook.HAS_KIN;
-                    return true;
-                case 3: return readValue(draft, into, cond, OrderBook.IS_KIND, NURSERY);
-                case 4: return readValue(draft, into, cond, OrderBook.IS_VILLAGE, VILLAGES - 1);
-                default: return false;
+            int what = readSign(draft, COND_SIGNS);
+            if (what < 0) {
+                return false;
             }
-        }
-
-        private boolean readAge(Draft draft, OrderBook into, int cond) {
-            int side = readSign(draft, "<>");
-            return side >= 0
-                    && readValue(draft, into, cond, side == 0 ? OrderBook.IS_BELOW : OrderBook.IS_ABOVE, 15);
-        }
-
-        private boolean readValue(Draft draft, OrderBook into, int cond, int what, int most) {
-            into.condWhat[cond] = what;
-            into.condValue[cond] = readNumber(draft, most);
+            int side = what == OrderBook.IS_BELOW ? readSign(draft, "<>") : 0;
+            if (side < 0) {
+                return false;
+            }
+            into.condWhat[cond] = side == 0 ? what : OrderBook.IS_ABOVE;
+            into.condValue[cond] = what == OrderBook.HAS_KIN ? 0 : readNumber(draft, MOST_VALUE[what]);
             return into.condValue[cond] >= 0;
         }
 

@@ -5,8 +5,12 @@ import java.lang.reflect.Modifier;
 import java.nio.charset.StandardCharsets;
 import java.nio.file.Files;
 import java.nio.file.Path;
+import java.util.ArrayList;
 import java.util.HashSet;
+import java.util.List;
+import java.util.Map;
 import java.util.Set;
+import java.util.TreeMap;
 import java.util.TreeSet;
 import java.util.regex.Matcher;
 import java.util.regex.Pattern;
@@ -23,6 +27,8 @@ public final class FaceTest {
         "int lessons(int,int,int,int,int,int)", "int count(int)", "long trace()"};
     private static final String[] RULED_OUT = {"throw", "try", "catch", "synchronized", "assert", "->", "::", "System.out",
         "System.nano", "System.current", "Random", "Thread", "volatile", "transient", "protected", "package"};
+    private static final Set<String> LIBRARY = Set.of("Arrays.fill", "Arrays.copyOf", "Arrays.copyOfRange", "System.arraycopy",
+        "Math.max", "Math.min", "Math.abs", "Integer.bitCount", "Integer.numberOfTrailingZeros");
     private static int wrong = 0;
 
     private static void check(boolean right, String what) {
@@ -85,9 +91,13 @@ public final class FaceTest {
         check(ChildTrains.class.getDeclaredClasses().length < 12, "many classes");
     }
 
-    private static void text() throws java.io.IOException {
+    /** The class as it is written, without comments and without what stands in texts. */
+    private static String code() throws java.io.IOException {
         String source = Files.readString(Path.of("src/main/java/ChildTrains.java"), StandardCharsets.US_ASCII);
-        String code = source.replaceAll("(?s)/\\*.*?\\*/", "").replaceAll("//[^\n]*", "").replaceAll("\"[^\"]*\"", "\"\"");
+        return source.replaceAll("(?s)/\\*.*?\\*/", "").replaceAll("//[^\n]*", "").replaceAll("\"[^\"]*\"", "\"\"");
+    }
+
+    private static void text(String code) {
         for (String word : RULED_OUT) {
             String edge = Character.isLetter(word.charAt(0)) ? "\\b" : "";
             check(!Pattern.compile(edge + Pattern.quote(word)).matcher(code).find(), "the text has " + word);
@@ -96,11 +106,55 @@ public final class FaceTest {
         while (use.find()) {
             check(use.group(1).matches("java\\.util\\.(Arrays|ArrayList|List|Iterator)"), "the text has " + use.group());
         }
+        Matcher asked = Pattern.compile("\\b(?:Arrays|System|Math|Integer|Long|String|List)\\.\\w+").matcher(code);
+        while (asked.find()) {
+            check(LIBRARY.contains(asked.group()), "the text has " + asked.group());
+        }
+    }
+
+    /** What each method calls, by names; methods of one name in several classes are taken as one. */
+    private static Map<String, Set<String>> calls(String code) {
+        Map<String, Set<String>> calls = new TreeMap<>();
+        Matcher method = Pattern.compile("(?ms)^( {4}| {8})(?! )[\\w\\[\\] ]*?(\\w+)\\([^(){};]*\\) \\{$(.*?)^\\1\\}$").matcher(code);
+        while (method.find()) {
+            check(method.group(3).lines().count() <= 60, method.group(2) + " is long");
+            Set<String> called = calls.computeIfAbsent(method.group(2), n -> new TreeSet<>());
+            Matcher call = Pattern.compile("\\b(?!(?:if|for|while|switch|return)\\b)(\\w+)\\(").matcher(method.group(3));
+            while (call.find()) {
+                called.add(call.group(1));
+            }
+        }
+        return calls;
+    }
+
+    /** The longest row of calls from a method on, itself among them; a recursion's level is counted once. */
+    private static List<String> deepest(Map<String, Set<String>> calls, List<String> open) {
+        List<String> most = open;
+        for (String next : calls.getOrDefault(open.get(open.size() - 1), Set.of())) {
+            if (!open.contains(next)) {
+                List<String> more = new ArrayList<>(open);
+                more.add(next);
+                more = deepest(calls, more);
+                most = more.size() > most.size() ? more : most;
+            }
+        }
+        return most;
+    }
+
+    private static void depth(String code) {
+        Map<String, Set<String>> calls = calls(code);
+        for (String told : FACE) {
+            String name = told.substring(told.indexOf(' ') + 1, told.indexOf('('));
+            check(calls.containsKey(name), name + " is not found in the text");
+            List<String> row = deepest(calls, List.of(name));
+            check(row.size() <= 8, "calls go deeper than eight: " + row);
+        }
     }
 
     public static void main(String[] args) throws Exception {
         face();
-        text();
+        text(code());
+        depth(code());
         System.out.println(wrong + " faults of the face or the text");
         if (wrong != 0) {
             System.exit(1);
